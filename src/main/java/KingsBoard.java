@@ -73,7 +73,7 @@ public final class KingsBoard {
         int fault = reader.useUp();
         if (fault == 0) {
             board.takeOver(reader.draft);
-            past.made = 0;
+            past.forget();
             listed = NONE;
         }
         return fault;
@@ -345,13 +345,10 @@ public final class KingsBoard {
             return ray & ~(met >>> 1);
         }
 
-        /** Where a man that is not a pawn reaches. */
+        /** Where a knight, bishop, rook or queen reaches. */
         long reach(int kind, int square, long men) {
             if (kind == KNIGHT) {
                 return knights[square];
-            }
-            if (kind == KING) {
-                return kings[square];
             }
             long set = 0;
             for (int way = 0; way < WAYS; way++) {
@@ -410,9 +407,9 @@ public final class KingsBoard {
             }
         }
 
-        /** For WHITE: what BLACK's men are worth is less than 0 (a king may be otherwise), and no man is worth 0. */
+        /** What a man is worth to WHITE: what he is worth to BLACK counts as less, and 0 for no man. */
         int forWhite(int man, int square) {
-            // 56 turns the rows round, so that rows become BLACK's ranks.
+            // The square with its row turned round by 56 has BLACK's rank as its row.
             return man >= 0 ? table[man * SQUARES + square] : -table[-man * SQUARES + (square ^ 56)];
         }
     }
@@ -602,7 +599,7 @@ public final class KingsBoard {
         // The squares of the men of the side to move, in order, and the goals of each.
         private final int[] stands;
         private final long[] goals;
-        private int men;
+        private int standing;
         private long own;
         private long all;
         private int king;
@@ -624,17 +621,18 @@ public final class KingsBoard {
             passers = board.passers();
             long left = own;
             int count = Math.min(Long.bitCount(own), MOST_MEN);
-            for (men = 0; men < count; men++) {
+            for (int i = 0; i < count; i++) {
                 int square = leastOf(left);
                 left &= left - 1;
-                stands[men] = square;
-                goals[men] = square == king ? kingGoals() : goalsOf(square);
+                stands[i] = square;
+                goals[i] = square == king ? kingGoals() : goalsOf(square);
             }
+            standing = count;
         }
 
         boolean hasNone() {
             long any = 0;
-            for (int i = 0; i < men; i++) {
+            for (int i = 0; i < standing; i++) {
                 any |= goals[i];
             }
             return any == 0;
@@ -642,7 +640,7 @@ public final class KingsBoard {
 
         int count() {
             int sum = 0;
-            for (int i = 0; i < men; i++) {
+            for (int i = 0; i < standing; i++) {
                 sum += Long.bitCount(goals[i]) * (becomesAnother(stands[i]) ? 4 : 1);
             }
             return sum;
@@ -651,7 +649,7 @@ public final class KingsBoard {
         /** Puts the moves to squares of a set into a row behind those that it has: how many it has then. */
         int list(int[] row, int has, long set) {
             int count = has;
-            for (int i = 0; i < men; i++) {
+            for (int i = 0; i < standing; i++) {
                 int from = stands[i];
                 boolean becomesAnother = becomesAnother(from);
                 int least = becomesAnother ? KNIGHT : 0;
@@ -790,6 +788,10 @@ public final class KingsBoard {
             earlier = new int[SQUARES];
         }
 
+        void forget() {
+            made = 0;
+        }
+
         /** Makes a legal move: the man taken, or 0. */
         int make(int one) {
             int from = fromOf(one);
@@ -926,6 +928,7 @@ public final class KingsBoard {
         private final Past past;
         // Row n - 1 has the moves of the position from which n moves are still to be made.
         private final int[][] rows;
+        // What choose() chose last.
         int choice;
 
         Seeker(Board board, Laws laws, Past past) {
@@ -933,14 +936,14 @@ public final class KingsBoard {
             this.laws = laws;
             this.past = past;
             rows = new int[DEEPEST][MOST_MOVES];
-            choice = NONE;
         }
 
-        int countWays(int depth) {
+        private int countWays(int depth) {
             if (depth <= 0) {
                 return 1;
             }
             laws.survey();
+            // The last moves need not be made to be counted.
             if (depth == 1 || depth > DEEPEST) {
                 return laws.count();
             }
@@ -1003,7 +1006,7 @@ public final class KingsBoard {
             return best;
         }
 
-        /** Moves that take a man are most often the ones that make others needless to look at. */
+        /** Lists first the moves that most often make the others needless to look at. */
         private int listTakingFirst(int[] row) {
             long others = board.sides[1 - board.mover];
             int count = laws.list(row, 0, others);

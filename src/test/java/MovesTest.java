@@ -81,6 +81,8 @@ public final class MovesTest {
         // Two men give check: only the king moves.
         moves("4r2k/8/8/8/7b/8/8/R3K2R w - - 0 1", "e1d1 e1f1 e1d2");
         moves("7k/8/8/8/8/2p1p3/3K4/Q7 w - - 0 1", "d2c1 d2d1 d2e1 d2c2 d2e2 d2c3 d2d3 d2e3");
+        moves("7k/8/8/8/R7/2p1p3/3K4/8 w - - 0 1", "d2c1 d2d1 d2e1 d2c2 d2e2 d2c3 d2d3 d2e3");
+        moves("7k/8/8/8/8/8/R1K5/n7 w - - 0 1", "a2a1 c2b1 c2c1 c2d1 c2b2 c2d2 c2c3 c2d3");
         // A man comes between, or takes the one that gives check.
         moves("4r2k/8/8/8/8/8/3P1P2/3QKBN1 w - - 0 1", "d1e2 f1e2 g1e2");
         moves("4r2k/8/8/8/Q7/8/3P1P2/3RKR2 w - - 0 1", "a4e4 a4e8");

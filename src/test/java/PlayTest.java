@@ -151,6 +151,11 @@ public final class PlayTest {
             Check.throwsState("play(" + move[0] + ", " + move[1] + ")", () -> x.play(move[0], move[1], 0));
         }
         Check.throwsState("back of none", x::back);
+        // Moves of an earlier position are none of this one.
+        KingsBoard mated = new KingsBoard();
+        Use.playAll(mated, "f2f3 e7e5 g2g4 d8h4");
+        Check.throwsState("a move that BLACK had", () -> mated.play(48, 32, 0));
+        Check.throwsState("a move that WHITE had", () -> mated.play(8, 16, 0));
         Check.throwsState("a move of a mated side", () -> Use.at("7k/6Q1/6K1/8/8/8/8/8 b - - 0 1").play(63, 62, 0));
     }
 

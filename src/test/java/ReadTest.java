@@ -17,6 +17,7 @@ public final class ReadTest {
         wrongPassed();
         passedWithoutMove();
         leastFault();
+        nothingComesFromTheReadBefore();
         whatStays();
         whatIsSet();
         Check.end();
@@ -87,6 +88,8 @@ public final class ReadTest {
         wrongAt(KINGS + " w KQkqK - 0 1", 24);
         wrongAt(KINGS + " w -K - 0 1", 21);
         wrongAt(KINGS + " w K- - 0 1", 21);
+        wrongAt(KINGS + " w -  0 1", 22);
+        wrongAt(KINGS + " w - a 0 1", 23);
         wrongAt(KINGS + " w - i3 0 1", 22);
         wrongAt(KINGS + " w - A3 0 1", 22);
         wrongAt(KINGS + " w - `3 0 1", 22);
@@ -168,6 +171,10 @@ public final class ReadTest {
         fault("r3k2r/8/8/8/8/8/8/R3K2r w K - 0 1", 5);
         fault("r3k2r/8/8/8/8/8/4r3/R3R2K w Q - 0 1", 5);
         fault("4k3/8/8/8/8/8/8/R3K2R w KQ - 0 1", 0);
+        fault("4k3/8/8/8/8/8/8/4K2R w K - 0 1", 0);
+        fault("4k3/8/8/8/8/8/8/R3K3 w Q - 0 1", 0);
+        fault("4k2r/8/8/8/8/8/8/4K3 w k - 0 1", 0);
+        fault("r3k3/8/8/8/8/8/8/4K3 w q - 0 1", 0);
         fault("4k3/8/8/8/8/8/8/R3K2R w KQkq - 0 1", 5);
     }
 
@@ -220,6 +227,23 @@ public final class ReadTest {
         fault("k7/8/8/8/8/8/8/R3K3 b K e4 0 1", 5);
         fault("k7/8/8/8/8/8/8/R3K3 b Q e4 0 1", 6);
         wrongAt("kk5P/8/8/8/8/8/8/R3K3 w K e4 0 1x", 32);
+    }
+
+    private static void nothingComesFromTheReadBefore() {
+        String[] all = {
+            "r3k2r/8/8/8/3pP3/8/8/R3K2R b KQkq e3 12 34",
+            "8/8/8/8/8/1k6/8/K6Q w - - 0 1",
+            "8/3nb3/8/k7/8/8/5RP1/7K w - - 5 6",
+        };
+        KingsBoard x = new KingsBoard();
+        for (String text : all) {
+            Check.same("read of " + text, Use.read(x, text), 0);
+            Check.same("read and written", Use.write(x), text);
+        }
+        Check.same("a read that goes wrong late", Use.read(x, all[0] + "x"), 1);
+        Check.same("another read behind it", Use.read(x, all[1]), 0);
+        Check.same("read and written", Use.write(x), all[1]);
+        Check.same("worth", x.worth(), 900 + 9);
     }
 
     private static void whatStays() {

@@ -10,6 +10,7 @@ public final class SearchTest {
         valuesOfEnds();
         chosenWhateverTheState();
         thriceIsNoEnd();
+        replies();
         takesTheFirstOfEquals();
         becoming();
         changesNothing();
@@ -87,6 +88,13 @@ public final class SearchTest {
         Check.same("search(1)", x.search(1), 18);
         Check.same("chosen", Use.chosen(x), "b1c3");
         Check.same("search(3)", x.search(3), 18);
+    }
+
+    private static void replies() {
+        // WHITE has one move, and BLACK's queen then takes a pawn.
+        search("7k/8/8/8/1p6/1P6/q7/7K w - - 0 1", 2, -3 - (906 + 118), "h1g1");
+        // The rook must stop the pawn.
+        search("7k/8/8/8/8/8/1p6/R6K w - - 0 1", 2, 500 - (126 - 3), "a1b1");
     }
 
     private static void takesTheFirstOfEquals() {
