@@ -4,24 +4,34 @@ import java.util.function.IntSupplier;
 final class Check {
     private static int wrong = 0;
     private static int looked = 0;
+    private static String sentence = "";
 
     private Check() {
     }
 
+    /** Says which of the document's sentences is tested from here on, so that a wrong answer tells it. */
+    static void sentence(String words) {
+        sentence = "[" + words + "] ";
+    }
+
     static void same(String what, long got, long due) {
-        looked++;
-        if (got != due) {
-            wrong++;
-            System.out.println(what + " answered " + got + ", due is " + due);
-        }
+        same(what, String.valueOf(got), String.valueOf(due));
     }
 
     static void same(String what, String got, String due) {
         looked++;
         if (!got.equals(due)) {
             wrong++;
-            System.out.println(what + " answered " + got + ", due is " + due);
+            System.out.println(sentence + what + " answered " + got + ", due is " + due);
         }
+    }
+
+    static void isTrue(String what, boolean got) {
+        same(what, got ? "true" : "false", "true");
+    }
+
+    static void isFalse(String what, boolean got) {
+        same(what, got ? "true" : "false", "false");
     }
 
     static void throwsArgument(String what, IntSupplier call) {
