@@ -85,7 +85,7 @@ public final class EdgesOfCallsTest {
     }
 
     private static void noneToTakeBack() {
-        Check.sentence("IllegalStateException: none to take back");
+        Check.sentence("there is no legal move as told, none to take back");
         KingsBoard x = new KingsBoard();
         Check.throwsState("back() of a new object", x::back);
         Use.play(x, "e2e4");

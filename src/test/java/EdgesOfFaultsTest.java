@@ -109,6 +109,7 @@ public final class EdgesOfFaultsTest {
             fault("4k3/8/8/8/8/8/8/R4K1R w " + right + " - 0 1", 5);
             fault("3k4/8/8/8/8/8/4K3/R6R w " + right + " - 0 1", 5);
             fault("k7/8/8/8/8/8/8/R2KQ2R b " + right + " - 0 1", 5);
+            fault("4K3/8/8/8/8/8/8/R3k2R b " + right + " - 0 1", 5);
             // The other side's RIGHTS may be wrong, too.
             fault("4k3/8/8/8/8/8/8/R2K3R b " + right + " - 0 1", 5);
         }

@@ -267,7 +267,7 @@ public final class EdgesOfMovesTest {
     }
 
     private static void noSuchMove() {
-        Check.sentence("IndexOutOfBoundsException: there is no such move");
+        Check.sentence("IndexOutOfBoundsException: there is no such square, move, character");
         KingsBoard x = new KingsBoard();
         for (int what = 0; what <= 2; what++) {
             int part = what;

@@ -13,6 +13,7 @@ public final class EdgesOfReadingTest {
         noRoom();
         nothingTyped();
         usedUp();
+        usedUpByNoOtherCall();
         tooManySquares();
         tooFewSquares();
         digitsOfRows();
@@ -125,7 +126,7 @@ public final class EdgesOfReadingTest {
     }
 
     private static void nothingTyped() {
-        Check.sentence("PLACE is the first character that can't be there, or the end, if more must come");
+        Check.sentence("or the end, if more must come");
         KingsBoard x = new KingsBoard();
         Check.same("read of nothing", x.read(), 1);
         Check.same("place", x.place(), 0);
@@ -148,6 +149,27 @@ public final class EdgesOfReadingTest {
             Check.same("place", x.place(), 0);
             Check.same("read of a right one", Use.read(x, Use.BEGINNING), 0);
         }
+    }
+
+    private static void usedUpByNoOtherCall() {
+        Check.sentence("The characters typed are read as a position, and used up");
+        KingsBoard x = new KingsBoard();
+        Use.type(x, Use.BEGINNING.substring(0, 30));
+        x.place();
+        x.write();
+        x.written(0);
+        Use.position(x);
+        Use.play(x, "e2e4");
+        x.back();
+        x.ways(1);
+        x.search(1);
+        x.chosen(0);
+        Check.throwsState("a call that throws", x::back);
+        Use.play(x, "d2d4");
+        Check.same("type of one more", x.type(Use.BEGINNING.charAt(30), 1), 31);
+        Use.type(x, Use.BEGINNING.substring(31));
+        Check.same("read of all", x.read(), 0);
+        Check.same("written", Use.write(x), Use.BEGINNING);
     }
 
     /** A row that is wrong at a place of its own, in the place of each row of the board. */
@@ -311,7 +333,7 @@ public final class EdgesOfReadingTest {
     }
 
     private static void numbersAtMost9999() {
-        Check.sentence("These two are at most 9999; of numbers above 9999 the digit that makes them so");
+        Check.sentence("of numbers above 9999 the digit that makes them so");
         for (String number : "1 2 9 10 11 99 100 101 999 1000 1001 9998 9999".split(" ")) {
             right(KINGS + " w - - " + number + " 1");
             right(KINGS + " w - - 0 " + number);
@@ -332,7 +354,7 @@ public final class EdgesOfReadingTest {
     }
 
     private static void numbersWithoutFirstZero() {
-        Check.sentence("in digits without a 0 before others; of a digit behind a first 0 that digit");
+        Check.sentence("of a digit behind a first 0 that digit");
         right(KINGS + " w - - 0 1");
         right(KINGS + " w - - 100 100");
         for (int digit = 0; digit <= 9; digit++) {
@@ -353,7 +375,7 @@ public final class EdgesOfReadingTest {
     }
 
     private static void numberOfOneOrMore() {
-        Check.sentence("the NUMBER is 1 or more; of a NUMBER 0 that 0");
+        Check.sentence("of a NUMBER 0 that 0");
         wrongAt(KINGS + " w - - 0 0", 26);
         wrongAt(KINGS + " w - - 0 0 ", 26);
         // No NUMBER begins with a 0: it is the first character that can't be there.

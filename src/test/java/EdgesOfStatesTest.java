@@ -152,6 +152,11 @@ public final class EdgesOfStatesTest {
         stateBehind(knights, exchange, 0);
         stateBehind(knights, exchange + " h1g1 a8b8 g1h1 b8a8", 4);
         stateBehind(TO_AND_FRO, ROUND + " a1a2 b8c8 h1g1 c8b8 g1h1 b8c8 h1g1 c8b8", 0);
+        // The same but for a man who has been taken since.
+        String pawn = "1k6/8/8/p7/8/8/8/R6K w - - 0 1";
+        stateBehind(pawn, ROUND + " a1a5 b8c8 a5a1 c8b8", 0);
+        stateBehind(pawn, ROUND + " a1a5 b8c8 a5a1 c8b8 " + ROUND, 0);
+        stateBehind(pawn, ROUND + " a1a5 b8c8 a5a1 c8b8 " + rounds(2), 4);
     }
 
     private static void sameRights() {

@@ -75,7 +75,7 @@ public final class EdgesOfWritingTest {
     }
 
     private static void noSuchCharacter() {
-        Check.sentence("IndexOutOfBoundsException: there is no such character");
+        Check.sentence("IndexOutOfBoundsException: there is no such square, move, character");
         KingsBoard x = Use.at(KINGS + " w - - 0 1");
         int length = x.write();
         Check.throwsIndex("written(-1)", () -> x.written(-1));
