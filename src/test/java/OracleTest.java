@@ -1,6 +1,8 @@
 import java.util.ArrayList;
+import java.util.HashSet;
 import java.util.List;
 import java.util.Random;
+import java.util.Set;
 import java.util.function.IntSupplier;
 
 /** All promises: long runs of calls, drawn with fixed seeds, on the class and on the document's plain reading. */
@@ -13,42 +15,67 @@ public final class OracleTest {
         "rnbq1k1r/pp1Pbppp/2p5/8/2B5/8/PPP1NnPP/RNBQK2R w KQ - 1 8",
         "r3k2r/8/8/8/8/8/8/R3K2R b KQkq - 96 9990",
         "4k3/pppppppp/8/8/8/8/PPPPPPPP/4K3 w - - 0 1",
+        "4k3/1p1p1p1p/8/P1P1P1P1/p1p1p1p1/8/1P1P1P1P/4K3 b - - 0 1",
         "8/1P4k1/8/8/8/8/1p4K1/8 b - - 99 9999",
-        "n1n1k3/PPPP4/8/8/8/8/pppp4/N1N1K3 w - - 0 1",
+        "n1n3k1/PPPP4/8/8/8/8/pppp4/N1N3K1 w - - 0 1",
         "8/8/3k4/8/2n5/8/1N2K3/8 w - - 0 1",
         "2b1k3/8/8/8/8/8/8/2B1K3 w - - 90 1",
         "7k/8/5KQ1/8/8/8/8/8 w - - 0 1",
         "8/6bb/8/8/R1pP2k1/4P3/P7/K7 b - d3 0 1",
     };
+    /** What runs differ in. */
+    private static final int SETS_OFTEN = 0;
+    private static final int GOES_TO_AND_FRO = 1;
+    private static final int MAKES_RARE_MOVES = 2;
+    private static final int KINDS = 4;
+    private static final int RUNS = 600;
+    /** What the runs must come to, lest they seem to test what they never see. */
+    private static final String[] DUE_TO_COME = {
+        "state() 0", "state() 1", "state() 2", "state() 3", "state() 4", "state() 5",
+        "read() 0", "read() 1", "read() 2", "read() 3", "read() 4", "read() 5", "read() 6",
+        "king to 2", "king to 6", "king to 58", "king to 62", "by PASSED 0", "by PASSED 1",
+        "becomes 2", "becomes 3", "becomes 4", "becomes 5", "becomes -2", "becomes -3", "becomes -4", "becomes -5",
+    };
+    private static final Set<String> CAME = new HashSet<>();
     private static final String LETTERS = "PNBRQKpnbrqk12345678//// wb-KQkqabch019";
 
     private final Random random;
+    private final int kind;
     private final KingsBoard got = new KingsBoard();
     private final Oracle due = new Oracle();
     private final List<String> told = new ArrayList<>();
     private boolean ends = false;
+    private int[] latest = {0, 0};
+    private int[] oneBefore = {0, 0};
 
     private OracleTest(long seed) {
-        random = new Random(seed);
+        // The first draws of seeds that lie beside one another are alike, so they are spread, and the kind goes round.
+        random = new Random(seed * 0x9E3779B97F4A7C15L);
+        kind = (int) Math.floorMod(seed, (long) KINDS);
     }
 
     public static void main(String[] args) {
-        int runs = args.length > 0 ? Integer.parseInt(args[0]) : 600;
+        int runs = args.length > 0 ? Integer.parseInt(args[0]) : RUNS;
         long first = args.length > 1 ? Long.parseLong(args[1]) : 1;
+        for (String text : SETTINGS) {
+            Use.at(text);
+        }
         for (long seed = first; seed < first + runs && Check.wrong() < 10; seed++) {
             new OracleTest(seed).run(512);
+        }
+        for (String one : DUE_TO_COME) {
+            Check.isTrue("the runs come to " + one, runs < RUNS || CAME.contains(one));
         }
         Check.end();
     }
 
     private void run(int calls) {
-        int kind = random.nextInt(4);
         while (told.size() < calls && !ends) {
             int draw = random.nextInt(100);
-            if (draw < (kind == 0 ? 25 : 3)) {
+            if (draw < (kind == SETS_OFTEN ? 25 : kind == GOES_TO_AND_FRO ? 1 : 3)) {
                 set();
             } else if (draw < 60) {
-                playOne(kind);
+                playOne();
             } else if (draw < 66) {
                 same("back()", got::back, due::back);
             } else if (draw < 94) {
@@ -69,6 +96,7 @@ public final class OracleTest {
         String answer = Check.outcome(one);
         String right = Check.outcome(other);
         Check.same(call, answer, right);
+        CAME.add(call + " " + right);
         if (!answer.equals(right)) {
             ends = true;
             System.out.println("  in " + told.subList(Math.max(0, told.size() - 60), told.size()));
@@ -125,9 +153,9 @@ public final class OracleTest {
         Oracle.Position p = new Oracle.Position();
         int men = random.nextInt(random.nextInt(3) == 0 ? 34 : 10);
         for (int i = 0; i < men; i++) {
-            int kind = 1 + random.nextInt(5);
-            int row = kind == 1 && random.nextInt(30) > 0 ? 1 + random.nextInt(6) : random.nextInt(8);
-            p.men[row][random.nextInt(8)] = random.nextBoolean() ? kind : -kind;
+            int man = 1 + random.nextInt(5);
+            int row = man == 1 && random.nextInt(12) > 0 ? 1 + random.nextInt(6) : random.nextInt(8);
+            p.men[row][random.nextInt(8)] = random.nextBoolean() ? man : -man;
         }
         p.set(random.nextInt(3) == 0 ? 4 : random.nextInt(64), 6);
         p.set(random.nextInt(3) == 0 ? 60 : random.nextInt(64), -6);
@@ -164,32 +192,67 @@ public final class OracleTest {
         return Oracle.textOf(p);
     }
 
-    private void playOne(int kind) {
+    private void playOne() {
         int draw = random.nextInt(20);
         int count = due.moves();
         if (draw < 2 || count == 0) {
             play(random.nextInt(70) - 3, random.nextInt(70) - 3, random.nextInt(8) - 1);
             return;
         }
-        int i = random.nextInt(count);
-        // Runs of kind 1 go to and fro with few men, so that positions stand again.
-        for (int tries = 0; kind == 1 && tries < 8 && !goesToAndFro(i); tries++) {
-            i = random.nextInt(count);
-        }
+        int i = drawnMove(count);
         int becomes = due.move(i, 2);
         play(due.move(i, 0), due.move(i, 1), draw == 2 ? random.nextInt(7) : becomes);
     }
 
-    private boolean goesToAndFro(int i) {
-        int man = due.man(due.move(i, 0));
-        boolean isBetweenTwo = due.move(i, 0) % 8 == due.move(i, 1) % 8 && due.move(i, 0) / 8 + due.move(i, 1) / 8 < 15
-                && Math.abs(due.move(i, 0) - due.move(i, 1)) == 8;
-        return Math.abs(man) == 2 || Math.abs(man) >= 4 && isBetweenTwo;
+    private int drawnMove(int count) {
+        int first = random.nextInt(count);
+        boolean isForKind = random.nextInt(8) > 0;
+        for (int i = 0; i < count && isForKind; i++) {
+            int one = (first + i) % count;
+            if (kind == GOES_TO_AND_FRO && goesBack(one) || kind == MAKES_RARE_MOVES && isRare(one)) {
+                return one;
+            }
+        }
+        // Where nobody can go back yet, a man other than a pawn must go first.
+        for (int i = 0; i < count && kind == GOES_TO_AND_FRO; i++) {
+            int one = (first + i) % count;
+            if (Math.abs(due.man(due.move(one, 0))) != 1 && due.man(due.move(one, 1)) == 0) {
+                return one;
+            }
+        }
+        return first;
+    }
+
+    private boolean goesBack(int i) {
+        return due.move(i, 0) == oneBefore[1] && due.move(i, 1) == oneBefore[0];
+    }
+
+    private boolean isRare(int i) {
+        int from = due.move(i, 0);
+        int to = due.move(i, 1);
+        int man = Math.abs(due.man(from));
+        boolean isByRight = man == 6 && Math.abs(from - to) == 2;
+        boolean isPawnsOwn = man == 1 && (Math.abs(from - to) == 16 || to == due.about(2) || due.move(i, 2) != 0);
+        return isByRight || isPawnsOwn;
+    }
+
+    private void noteRare(int from, int to, int becomes) {
+        for (int i = 0; i < due.moves(); i++) {
+            if (due.move(i, 0) == from && due.move(i, 1) == to && due.move(i, 2) == becomes) {
+                int man = due.man(from);
+                CAME.add(Math.abs(man) == 6 && Math.abs(from - to) == 2 ? "king to " + to : "");
+                CAME.add(Math.abs(man) == 1 && to == due.about(2) ? "by PASSED " + due.about(0) : "");
+                CAME.add("becomes " + man * becomes);
+            }
+        }
     }
 
     private void play(int from, int to, int becomes) {
+        noteRare(from, to, becomes);
         same("play(" + from + ", " + to + ", " + becomes + ")", () -> got.play(from, to, becomes),
                 () -> due.play(from, to, becomes));
+        oneBefore = latest;
+        latest = new int[] {from, to};
         same("state()", got::state, due::state);
     }
 
